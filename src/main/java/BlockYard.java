@@ -37,6 +37,7 @@ public final class BlockYard {
     private static final int MOST_STEPS = 4;
     private static final int FAULT = -100;
     private static final int NO_FAULT = -1;
+    private static final char[] KIND_LETTERS = {'r', 'd', 'l', 'u', 't', 's'};
 
     private final Text text = new Text();
     private final Level level = new Level();
@@ -460,22 +461,16 @@ public final class BlockYard {
     }
 
     private static int kindOfLetter(char letter) {
-        switch (letter) {
-            case 'r':
-                return 0;
-            case 'd':
-                return 1;
-            case 'l':
-                return 2;
-            case 'u':
-                return 3;
-            case 't':
-                return 4;
-            case 's':
-                return 5;
-            default:
-                return -1;
+        return placeOf(letter, KIND_LETTERS);
+    }
+
+    private static int placeOf(char sign, char[] signs) {
+        for (int place = 0; place < signs.length; place++) {
+            if (signs[place] == sign) {
+                return place;
+            }
         }
+        return -1;
     }
 
     private static int moveCode(int number, int kind) {
@@ -926,12 +921,7 @@ public final class BlockYard {
         }
 
         private static int groundOf(char sign) {
-            for (int kind = 0; kind < GROUND.length; kind++) {
-                if (GROUND[kind] == sign) {
-                    return kind;
-                }
-            }
-            return -1;
+            return placeOf(sign, GROUND);
         }
 
         private static boolean isPivot(char sign) {

@@ -60,6 +60,9 @@ public final class MoveTest {
         stays("......./......A/.......", 0, 0);
         moves("......../.......A/........", 0, 2, 1, "......../......A./........");
         stays("......../.......A/........", 0, 0);
+        stays(".../.../.../.../.../.../.../.A.", 0, 1);
+        stays(".A./.../.../.../.../.../.../...", 0, 3);
+        moves(".../.../.../.../.../.../.A./...", 0, 1, 1, ".../.../.../.../.../.../.../.A.");
     }
 
     private static void pushesOfSeveral() {
@@ -323,6 +326,13 @@ public final class MoveTest {
         check.due("possible(-1)", BlockYard.BAD_VALUE, yard.possible(-1));
         check.due("possible(min)", BlockYard.BAD_VALUE, yard.possible(Integer.MIN_VALUE));
         check.due("picture", "A>B/0.w/..#", Check.picture(yard));
+        yard.move(0, 1);
+        check.due("possible(0) behind a move", 0, yard.possible(0));
+        check.due("possible(1) behind a move", 1, yard.possible(1));
+        check.due("possible(2) behind a move", 3, yard.possible(2));
+        yard.undo();
+        check.due("possible(2) behind undo", 4, yard.possible(2));
+        check.due("possibleCount behind undo", 6, yard.possibleCount());
         BlockYard gap = Check.yard(".../.../..E");
         check.due("possibleCount with block 4 alone", 4, gap.possibleCount());
         check.due("possible(0)", 42, gap.possible(0));

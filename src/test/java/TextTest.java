@@ -11,8 +11,10 @@ public final class TextTest {
         aFaultChangesNothing();
         aLevelReplacesAll();
         aLevelEndsWhatWasFoundForTheOneBefore();
+        aLevelLeavesNothingOfTheGround();
         moves();
         faultsOfMoves();
+        aTextEndsWhereItEnds();
         tooManyMoves();
         check.end();
     }
@@ -183,6 +185,21 @@ public final class TextTest {
         check.due("solution around the wall", 1, yard.solution(0));
     }
 
+    private static void aLevelLeavesNothingOfTheGround() {
+        String bare = "Aa../..../..../....";
+        for (char sign : "#>v<^0123wxyz".toCharArray()) {
+            BlockYard yard = Check.yard("...." + "/....".replace('.', sign).repeat(3));
+            check.due("readLevel", 1, Check.read(yard, bare));
+            check.due("picture behind " + sign, bare, Check.picture(yard));
+            check.due("moves behind " + sign, 4, Check.play(yard, "atadaras"));
+            for (int group = 0; group < 4; group++) {
+                check.due("load behind " + sign, 0, yard.load(group));
+            }
+            yard.setGoal(0, 1, 2, 2);
+            check.due("dead placements behind " + sign, 0, yard.deadCount(0));
+        }
+    }
+
     private static void moves() {
         BlockYard yard = Check.yard("..../.A../..../...E");
         check.due("no moves", 0, yard.readMoves());
@@ -242,6 +259,21 @@ public final class TextTest {
         fault("araral?", -106);
         fault("bdcrbr?r", -106);
         fault("at\u0000t", -102);
+    }
+
+    private static void aTextEndsWhereItEnds() {
+        BlockYard yard = Check.yard("A../.../...");
+        Check.retype(yard, "arar");
+        Check.retype(yard, "ara");
+        check.due("signs from before", -103, yard.readMoves());
+        Check.retype(yard, ".../.../...");
+        Check.retype(yard, ".../...");
+        check.due("signs from before", -107, yard.readLevel());
+        Check.retype(yard, "ar".repeat(40));
+        yard.clearText();
+        check.due("no signs", 0, yard.readMoves());
+        Check.retype(yard, "at".repeat(40));
+        check.due("a full text", 40, yard.readMoves());
     }
 
     private static void tooManyMoves() {
