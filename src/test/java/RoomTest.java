@@ -7,10 +7,13 @@ public final class RoomTest {
     public static void main(String[] args) {
         var threads = (com.sun.management.ThreadMXBean) ManagementFactory.getThreadMXBean();
         long itself = Thread.currentThread().getId();
-        BlockYard yard = new BlockYard();
-        useAll(yard);
+        BlockYard[] yards = new BlockYard[20];
+        for (int k = 0; k < yards.length; k++) {
+            yards[k] = new BlockYard();
+        }
+        useAll(new BlockYard());
         long before = threads.getThreadAllocatedBytes(itself);
-        for (int k = 0; k < 20; k++) {
+        for (BlockYard yard : yards) {
             useAll(yard);
         }
         long made = threads.getThreadAllocatedBytes(itself) - before;

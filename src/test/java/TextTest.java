@@ -279,9 +279,8 @@ public final class TextTest {
     private static void tooManyMoves() {
         BlockYard yard = Check.yard("A../.../...");
         String ten = "atatatatatatatatatat";
-        for (int k = 0; k < 19; k++) {
-            check.due("ten moves", 10, Check.play(yard, ten));
-        }
+        Check.turn(yard, 180);
+        check.due("ten moves", 10, Check.play(yard, ten));
         yard.move(0, 0);
         yard.undo();
         check.due("eleven moves", BlockYard.FULL, Check.play(yard, ten + "at"));
