@@ -37,6 +37,7 @@ public final class MoveBoundsTest {
         effortOfNone();
         theGreatestEffort();
         weightsAsTheyWere();
+        effortWithoutWhatWasUndone();
         slots();
         wrongSlots();
         savedAgain();
@@ -44,6 +45,7 @@ public final class MoveBoundsTest {
         blocksOfAnotherPlacement();
         noMovesBehindRestore();
         placementsAlone();
+        the512thCall();
         check.end();
     }
 
@@ -461,6 +463,26 @@ public final class MoveBoundsTest {
         check.due("effort by readMoves", 30, yard.effort());
     }
 
+    private static void effortWithoutWhatWasUndone() {
+        check.about("the effort of all moves that have been made");
+        BlockYard yard = Check.yard("A.../..../....");
+        yard.setWeight(0, 9);
+        Check.play(yard, "ararad");
+        yard.setWeight(0, 2);
+        yard.undo();
+        yard.undo();
+        check.due("one of three", 9, yard.effort());
+        yard.move(0, 1);
+        check.due("another one instead of two", 11, yard.effort());
+        yard.move(0, 1);
+        check.due("and one more", 13, yard.effort());
+        yard.undo();
+        yard.undo();
+        check.due("undone", 9, yard.effort());
+        check.due("by readMoves", 1, Check.play(yard, "at"));
+        check.due("effort then", 11, yard.effort());
+    }
+
     // ---- promises 25 and 26
 
     private static void slots() {
@@ -566,5 +588,26 @@ public final class MoveBoundsTest {
         check.due("goal", 2, yard.block(0, 5));
         check.due("strength", 9, yard.size(3));
         check.due("threshold", 9, yard.setThreshold(1, 1));
+    }
+
+    private static void the512thCall() {
+        check.about("An object is used for at most 512 calls after it has been made");
+        BlockYard yard = new BlockYard();
+        for (char sign : "A../.../...".toCharArray()) {
+            yard.type(sign);
+        }
+        yard.readLevel();
+        for (int k = 0; k < 200; k++) {
+            yard.move(0, k % 2 == 0 ? 0 : 2);
+        }
+        for (int k = 199; k > 50; k--) {
+            check.due("undo", k, yard.undo());
+        }
+        for (int k = 52; k <= 199; k++) {
+            check.due("redo", k, yard.redo());
+        }
+        check.due("the 510th call", 0, yard.block(0, 2));
+        check.due("the 511th call", 1, yard.block(0, 0));
+        check.due("the 512th call", 200, yard.redo());
     }
 }

@@ -18,11 +18,14 @@ public final class RulesBoundsTest {
         cellsPassedInTurns();
         theWidestTurn();
         theTurnOfOneCell();
+        theTurnOfFiveCells();
+        turnsOfSmallerBlocksThanBefore();
         turnsOutOfTheYard();
         turnsPushNothing();
         turnsNeedNoStrength();
         strengthAtItsBounds();
         strengthForOneBlock();
+        eachBlockIsWeighedOnce();
         pushedBlocksAreHeldUp();
         oneWayFloors();
         oneWayFloorsForPushedBlocks();
@@ -31,6 +34,7 @@ public final class RulesBoundsTest {
         gatesAsBeforeTheMove();
         aBlockOnAGateThatCloses();
         ownGatesAlone();
+        gatesOfPushedBlocks();
         otherGatesOfTheGroup();
         groupsAndTheirGates();
         check.end();
@@ -63,12 +67,15 @@ public final class RulesBoundsTest {
         }
     }
 
-    /** A block of one cell can't be pushed from here in this direction, but back. */
+    /** A block of one cell, however turned, can't be pushed from here in this direction, but back. */
     private static void stops(int columns, int rows, int x, int y, int kind) {
         BlockYard yard = Check.yard(Check.with(Check.floor(columns, rows), x, y, 'A'));
         String call = "from " + x + ", " + y + " of " + columns + " x " + rows + " to " + kind;
-        check.due("moved " + call, NOT, yard.moved(0, kind));
-        check.due("moved back " + call, 1, yard.moved(0, kind ^ 2));
+        for (int turns = 0; turns < 4; turns++) {
+            check.due("moved " + call, NOT, yard.moved(0, kind));
+            check.due("moved back " + call, 1, yard.moved(0, kind ^ 2));
+            yard.move(0, 4);
+        }
     }
 
     private static void edgesForCellsOfABlock() {
@@ -220,6 +227,42 @@ public final class RulesBoundsTest {
         check.due("on a closed gate", 1, gate.moved(0, 4));
     }
 
+    private static void theTurnOfFiveCells() {
+        check.about("A block consists of 1 to 5 cells: all of them turn, and no more");
+        String rest = "/...../...../...../.....";
+        String before = "...../...../...../...../";
+        check.due("clockwise down", 1, Check.yard("Aaaaa" + rest).moved(0, 4));
+        check.due("counterclockwise up", NOT, Check.yard("Aaaaa" + rest).moved(0, 5));
+        check.due("counterclockwise down", 1, Check.yard("aaaaA" + rest).moved(0, 5));
+        check.due("clockwise up", NOT, Check.yard("aaaaA" + rest).moved(0, 4));
+        check.due("counterclockwise up", 1, Check.yard(before + "Aaaaa").moved(0, 5));
+        check.due("clockwise down", NOT, Check.yard(before + "Aaaaa").moved(0, 4));
+        check.due("clockwise up", 1, Check.yard(before + "aaaaA").moved(0, 4));
+        check.due("counterclockwise down", NOT, Check.yard(before + "aaaaA").moved(0, 5));
+        BlockYard round = Check.yard(".a./aAa/.a.");
+        for (int kind = 4; kind <= 5; kind++) {
+            for (int k = 0; k < 4; k++) {
+                check.due("a turn", 1, round.move(0, kind) > 0 ? 1 : 0);
+                check.due("picture", ".a./aAa/.a.", Check.picture(round));
+            }
+        }
+        // each one of the five is held up by a wall on its own way
+        int[][] ways = {{1, 1}, {2, 2}, {3, 3}, {4, 4}};
+        for (int[] way : ways) {
+            String level = Check.with("Aaaaa" + rest, way[0], way[1], '#');
+            check.due("clockwise in " + level, NOT, Check.yard(level).moved(0, 4));
+        }
+    }
+
+    private static void turnsOfSmallerBlocksThanBefore() {
+        check.about("it replaces the present level: no cell of a block is left");
+        BlockYard yard = Check.yard("aaaaA/...../.....");
+        Check.read(yard, "#A#/###/###");
+        check.inside("a block of one cell", 4, 5, 1, kind -> yard.moved(0, kind));
+        Check.read(yard, "Aa./..#/###");
+        check.due("a block of two cells", 1, yard.moved(0, 4));
+    }
+
     private static void turnsOutOfTheYard() {
         check.about("The turn is possible if all cells that are passed are passable: if they are in the yard");
         check.due("over the upper edge", NOT, Check.yard("aA./.../...").moved(0, 4));
@@ -294,6 +337,24 @@ public final class RulesBoundsTest {
         }
     }
 
+    private static void eachBlockIsWeighedOnce() {
+        check.about("the sum of the weights of all moved blocks");
+        BlockYard one = Check.yard("Aaa./aa../....");
+        one.setWeight(0, 9);
+        one.setStrength(9);
+        check.due("five cells", 1, one.moved(0, 0));
+        one.setStrength(8);
+        check.due("five cells that are too heavy", NOT, one.moved(0, 0));
+        BlockYard rows = Check.yard("Aaaaa/Bbbbb/Ccccc/Ddddd/Eeeee/.....");
+        for (int block = 0; block < 5; block++) {
+            rows.setWeight(block, 9);
+        }
+        check.due("five blocks of five cells", 31, rows.moved(0, 1));
+        rows.setStrength(44);
+        check.due("five blocks that are too heavy", NOT, rows.moved(0, 1));
+        check.due("four of them", 30, rows.moved(1, 1));
+    }
+
     private static void pushedBlocksAreHeldUp() {
         check.about("The push is possible if for each block that is moved all its new cells are passable for it");
         check.due("the second at the edge", NOT, Check.yard(".AB/.../...").moved(0, 0));
@@ -321,6 +382,8 @@ public final class RulesBoundsTest {
         check.due("of two that differ", NOT, Check.yard("Av./a>./...").moved(0, 0));
         check.due("two of its direction", 1, Check.yard("A>./a>./...").moved(0, 0));
         check.due("two of its direction, and another", 1, Check.yard("A>v/a>v/...").moved(0, 0));
+        check.due("the first cell, and one of this direction elsewhere", NOT, Check.yard("v.^/A../...").moved(0, 3));
+        check.due("the last cell, and one of this direction elsewhere", NOT, Check.yard("v../..A/v.^").moved(0, 1));
     }
 
     private static void oneWayFloorsForPushedBlocks() {
@@ -413,6 +476,26 @@ public final class RulesBoundsTest {
         check.due("for the one that stands there", 2, other.moved(1, 0));
         other.move(2, 2);
         check.due("open for both", 3, other.moved(0, 0));
+    }
+
+    private static void gatesOfPushedBlocks() {
+        check.about("a gate on which the block has a cell before the move is passable for this block: also for one that "
+                + "is pushed, and for no other");
+        // A pushes B from behind, of which the hind cell comes to the gate of the front one
+        BlockYard pushed = Check.yard("bB0w./A..../.....");
+        check.due("moves", 4, Check.play(pushed, "brbrauar"));
+        check.due("picture", ".AbB./...../.....", Check.picture(pushed));
+        pushed.setThreshold(0, 45);
+        check.due("closed", 0, pushed.isOpen(0));
+        check.due("a pushed block and its own gate", 3, pushed.moved(0, 0));
+        // B is between the cells of A and would come to the gate of A's front cell
+        BlockYard between = Check.yard("A.a.C/..w.0/.B...");
+        check.due("moves", 4, Check.play(between, "cdadbucu"));
+        check.due("picture", "....C/ABa.0/.....", Check.picture(between));
+        check.due("closed", 0, between.isOpen(0));
+        check.due("a pushed block and the gate of the one that pushes", NOT, between.moved(0, 0));
+        between.move(2, 1);
+        check.due("open", 3, between.moved(0, 0));
     }
 
     private static void otherGatesOfTheGroup() {

@@ -32,6 +32,7 @@ public final class SolveBoundsTest {
         aloneWithAnyStrength();
         distancesOfNone();
         theLongestWay();
+        turnsInOneSense();
         distancesOfTheDead();
         distancesOfNoBlock();
         boundsOfNone();
@@ -136,6 +137,13 @@ public final class SolveBoundsTest {
             check.due("isDead in the wall", NONE, yard.isDead(0, x, 1, 0));
         }
         check.due("deadCount", 20, yard.deadCount(0));
+        BlockYard back = Check.yard("..<A/####/....");
+        back.setGoal(0, 3, 0, 4);
+        int[] mirrored = {1, 1, 0, 0};
+        for (int x = 0; x < 4; x++) {
+            check.due("isDead at " + x, mirrored[x], back.isDead(0, x, 0, 0));
+        }
+        check.due("deadCount", 24, back.deadCount(0));
     }
 
     private static void deadForOneOrientation() {
@@ -304,6 +312,20 @@ public final class SolveBoundsTest {
         check.due("solve", 34, yard.solve());
         check.due("solution(33)", 2, yard.solution(33));
         check.due("solution(34)", NONE, yard.solution(34));
+    }
+
+    private static void turnsInOneSense() {
+        check.about("the least number of moves by which it comes .. to its goal alone");
+        BlockYard clockwise = Check.yard(".../.Aa/..#");
+        clockwise.setGoal(0, 1, 1, 1);
+        check.due("a turn clockwise is barred", 3, clockwise.distance(0));
+        clockwise.setGoal(0, 1, 1, 3);
+        check.due("one counterclockwise is free", 1, clockwise.distance(0));
+        BlockYard counter = Check.yard("..#/.Aa/...");
+        counter.setGoal(0, 1, 1, 3);
+        check.due("a turn counterclockwise is barred", 3, counter.distance(0));
+        counter.setGoal(0, 1, 1, 1);
+        check.due("one clockwise is free", 1, counter.distance(0));
     }
 
     private static void distancesOfTheDead() {
@@ -555,11 +577,13 @@ public final class SolveBoundsTest {
         yard.clearGoal(0);
         isSolution("clearGoal", yard);
         yard.setGoal(0, 2, 1, 4);
+        isSolution("setGoal", yard, 1);
         yard.setWeight(0, 9);
+        isSolution("setWeight", yard, 1);
         yard.setStrength(8);
         check.due("setStrength", NONE, yard.solution(0));
         yard.setWeight(0, 8);
-        isSolution("setWeight", yard, 1);
+        isSolution("another weight", yard, 1);
         BlockYard gate = Check.yard("A0w/.../...");
         gate.setGoal(0, 2, 0, 4);
         isSolution("a gate", gate, 0, 0);
@@ -567,6 +591,11 @@ public final class SolveBoundsTest {
         check.due("setThreshold", NONE, gate.solution(0));
         Check.read(gate, "A0./.../...");
         isSolution("readLevel", gate);
+        BlockYard corner = Check.yard(".A./.../...");
+        corner.setGoal(0, 2, 0, 4);
+        isSolution("one step away", corner, 0);
+        corner.move(0, 2);
+        isSolution("a move into the first cell", corner, 0, 0);
     }
 
     private static void solvingChangesNothing() {

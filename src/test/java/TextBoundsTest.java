@@ -23,6 +23,7 @@ public final class TextBoundsTest {
         secondPivots();
         sixthCells();
         cellsWithoutPivot();
+        faultsOfAnotherText();
         otherFaultsComeFirst();
         numberOfBlocks();
         theTextOfALevelStays();
@@ -260,11 +261,28 @@ public final class TextBoundsTest {
             level(renamed("..aaa/aa.../.....", block), -102);
             level(renamed("a../.../A..", block), 1);
         }
+        level("aa./.a./..a", -100);
         level(".b./a../...", -101);
         level(".a./b../...", -101);
+        level(".../a.b/...", -104);
+        level(".../b.a/...", -104);
         level("Bb./.a./..a", -105);
         level("Cdb/aDA/...", -102);
         level("Aa./bB./..c", -110);
+    }
+
+    private static void faultsOfAnotherText() {
+        check.about("the fault is the index of the first cell of such a block: of this text, not of one before");
+        BlockYard yard = new BlockYard();
+        String[] levels = {".../..a/...", "..a/.../...", ".../.../..a", "a../a../...", ".../a../..."};
+        int[] faults = {6, 2, 10, 0, 4};
+        for (int k = 0; k < levels.length; k++) {
+            check.due("readLevel of " + levels[k], -100 - faults[k], Check.read(yard, levels[k]));
+        }
+        check.due("a second pivot", -101, Check.read(yard, "AA./.../..."));
+        check.due("a first one", 1, Check.read(yard, "A../.../..."));
+        check.due("a sixth cell", -106, Check.read(yard, "Aaaaa/a..../....."));
+        check.due("a fifth one", 1, Check.read(yard, "Aaaaa/...../....."));
     }
 
     private static void otherFaultsComeFirst() {
@@ -338,6 +356,22 @@ public final class TextBoundsTest {
         check.inside("restore", 0, 3, NONE, yard::restore);
         check.inside("save", 0, 3, 1, yard::save);
         check.due("the first move", 1, yard.move(0, 0));
+        BlockYard five = Check.yard("ABCDE/...../.....");
+        for (int block = 0; block < 5; block++) {
+            five.setWeight(block, 2 + block);
+            five.setGoal(block, block, 1, block);
+            five.move(block, 4);
+        }
+        Check.read(five, "ABCDE/...../.....");
+        for (int block = 0; block < 5; block++) {
+            check.due("weight of " + block, 1, five.block(block, 3));
+            check.due("orientation of " + block, 0, five.block(block, 2));
+            check.due("goal of " + block, NONE, five.block(block, 7));
+            check.due("number of cells of " + block, 1, five.block(block, 4));
+        }
+        check.due("solved", 1, five.isSolved());
+        Check.read(five, "...../...../.....");
+        check.inside("no block any more", 0, 4, BlockYard.NO_SUCH_BLOCK, block -> five.block(block, 0));
         // a block that has been away for a level begins anew as well
         BlockYard away = usedYard();
         Check.read(away, ".../.../..B");
@@ -378,6 +412,14 @@ public final class TextBoundsTest {
             check.inside("load", 0, 3, 0, yard::load);
             yard.setGoal(0, 0, 0, 4);
             check.due("deadCount", 0, yard.deadCount(0));
+        }
+        for (int before = 0; before < 4; before++) {
+            for (int now = 0; now < 4; now++) {
+                BlockYard yard = Check.yard("...".replace('.', ">v<^".charAt(before)) + "/.../...");
+                Check.read(yard, ".#./.A./...".replace('#', ">v<^".charAt(now)));
+                int want = now == 3 ? 1 : BlockYard.NOT_POSSIBLE;
+                check.due("up onto " + now + " where " + before + " was", want, yard.moved(0, 3));
+            }
         }
         BlockYard wide = Check.yard(Check.floor(8, 8));
         Check.read(wide, Check.floor(3, 4));
