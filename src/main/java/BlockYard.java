@@ -575,6 +575,7 @@ public final class BlockYard {
                 int quarters = kind == CLOCKWISE ? 1 : 3;
                 return (placement + CELLS * quarters) & (PLACEMENTS - 1);
             }
+            // columnOf, rowOf and cellAt are written out, as the search's calls are eight deep here already
             int x = (placement & 7) + STEP_X[kind];
             int y = ((placement >> 3) & 7) + STEP_Y[kind];
             boolean isInYard = x >= 0 && x < columns && y >= 0 && y < rows;
@@ -682,9 +683,9 @@ public final class BlockYard {
         int afterTurn(Yard yard, int placement, int kind, long barred) {
             int first = BLOCK_CELLS * orientationOf(placement);
             long forbidden = barred | yard.walls | yard.oneWays;
+            // a turn counterclockwise is one clockwise in the yard turned upside down
+            int sense = kind == CLOCKWISE ? 1 : -1;
             for (int at = first; at < first + cellCount; at++) {
-                // a turn counterclockwise is one clockwise in the yard turned upside down
-                int sense = kind == CLOCKWISE ? 1 : -1;
                 if (!sweepIsClear(yard, placement, offsetX[at], sense * offsetY[at], sense, forbidden)) {
                     return -1;
                 }

@@ -133,8 +133,10 @@ public final class ModelTest {
                 signs[y][x] = sign;
                 sign = (char) ('a' + block);
             }
-            x += random.nextInt(3) - 1;
-            y += random.nextInt(3) - 1;
+            // cells far from the pivot pass long ways when the block is turned
+            boolean far = random.nextInt(4) == 0;
+            x = far ? random.nextInt(signs[0].length) : x + random.nextInt(3) - 1;
+            y = far ? random.nextInt(signs.length) : y + random.nextInt(3) - 1;
         }
     }
 
